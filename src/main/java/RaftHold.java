@@ -1909,12 +1909,9 @@ public final class RaftHold {
                 case '>':
                     return a > b ? 1 : 0;
                 default:
-                    return reckoned(kind, a, b);
+                    break;
             }
-        }
-
-        private static int reckoned(int kind, long a, long b) {
-            long value = a * b;
+            long value = (long) a * b;
             if (kind == '+') {
                 value = a + b;
             } else if (kind == '-') {
