@@ -995,14 +995,10 @@ public final class RaftHold {
         private final int[] kinds = new int[MOST_BYTES + 1];
         private final int[] starts = new int[MOST_BYTES + 1];
         private final int[] values = new int[MOST_BYTES + 1];
-        private byte[] bytes;
+        private byte[] bytes = new byte[0];
         private int length;
         private int size;
         private int at;
-
-        Tokens(byte[] none) {
-            bytes = none;
-        }
 
         int kind() {
             return at < size ? kinds[at] : Kind.END;
@@ -1176,7 +1172,7 @@ public final class RaftHold {
         private static final int OUT_OF_BOUNDS = 3;
         private static final int TOO_DEEP_OR_MANY = 4;
 
-        private final Tokens tokens = new Tokens(new byte[0]);
+        private final Tokens tokens = new Tokens();
         private final LawReader law = new LawReader(tokens);
         private Raft raft = new Raft();
         private int got;
@@ -2052,7 +2048,10 @@ public final class RaftHold {
         }
     }
 
-    /** Two sides letting go by turns, by what the sea foresaw: 1 if the others lose, -1 if those of the set do, 0 if nobody does. */
+    /**
+     * Two sides letting go by turns, by what the sea foresaw. Outcomes are told as the set sees them:
+     * 1 if the others lose, -1 if those of the set do, 0 if nobody does.
+     */
     private static final class Turns {
         private final Sea sea;
         private final int[] oursOn = new int[SETS];

@@ -150,6 +150,13 @@ public final class PromisesTest {
         faulty("raft quota 1;\t", 1, 13);
         faulty("raft quota 1;\r", 1, 13);
         faulty("raft quota 1;S", 1, 13);
+        faulty("raft quota 1;`", 1, 13);
+        faulty("raft quota 1;{", 1, 13);
+        faulty("raft quota 1;a", 2, 13);
+        faulty("raft quota 1;z", 2, 13);
+        faulty("raft quota 1;/", 1, 13);
+        faulty("raft quota 1;9", 2, 13);
+        faulty("raft quota 1;:", 2, 13);
         faulty("raft quota 1;storm " + (char) 233 + ";", 1, 19);
         faulty("raft quota 1;storm 1" + (char) 0 + ";", 1, 20);
         faulty("raft quota 0001;", 1, 11);
@@ -202,6 +209,8 @@ public final class PromisesTest {
         faulty(six + "1=1 and;", 2, 25);
         faulty(six + "-1=1;", 2, 18);
         faulty(six + "1=1", 2, 21);
+        faulty(six + "[1=1;", 2, 22);
+        faulty(six + "(1)=(1;", 2, 24);
         faulty(six + ";", 2, 18);
         faulty(six + "all votes", 2, 22);
         faulty("raft quota 1;floats:who=1;", 2, 20);
