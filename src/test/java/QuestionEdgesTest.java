@@ -311,7 +311,6 @@ public final class QuestionEdgesTest {
         due("what ahead of none", new RaftHold().island(-1), -2);
     }
 
-    /** Each row of three tells who likes what; without the last one a link of the ring is neither. */
     private static void goingRound() {
         Check.promise(32, "island");
         String[] up = {"likes 3 2 1", "likes 1 3 2", "likes 2 1 3"};
@@ -323,23 +322,29 @@ public final class QuestionEdgesTest {
                 String[] broken = ring.clone();
                 broken[i] = "likes 0 0 0";
                 RaftHold y = likers(broken);
-                due("two links of three", y.island(1), 0);
+                due("without one of them", y.island(1), 0);
                 String[] turned = ring.clone();
                 turned[i] = ring == up ? down[i] : up[i];
-                due("a link turned round", likers(turned).island(1), 0);
+                due("one of them the other way", likers(turned).island(1), 0);
             }
         }
-        for (int i = 0; i < 3; i++) {
-            for (int k = 0; k < 3; k++) {
-                String[] tied = {up[0], up[1], up[2], "likes 0 0 0"};
-                int[] likes = {0, 0, 0};
-                likes[i] = 1;
-                tied[3] = "votes " + (k == 0 ? 1 : k == 1 ? 2 : 0) + " likes " + likes[0] + " " + likes[1] + " " + likes[2];
-                RaftHold x = likers(tied);
-                due("one link neither or turned", x.island(1), k == 2 ? 1 : 0);
-                due("who beats both", x.island(0), k == 1 ? i : -1);
+        for (String[] ring : new String[][] {up, down}) {
+            for (int i = 0; i < 3; i++) {
+                for (int votes = 0; votes < 3; votes++) {
+                    ringWithOneMore(ring, i, votes);
+                }
             }
         }
+    }
+
+    /** One more vote for an island makes neither of the link by which it was beaten, two turn it round. */
+    private static void ringWithOneMore(String[] ring, int island, int votes) {
+        int[] likes = new int[3];
+        likes[island] = 1;
+        String more = "votes " + votes + " likes " + likes[0] + " " + likes[1] + " " + likes[2];
+        RaftHold x = likers(ring[0], ring[1], ring[2], more);
+        due("they go round with " + votes + " more for " + island, x.island(1), votes == 0 ? 1 : 0);
+        due("who beats both with " + votes + " more for " + island, x.island(0), votes == 2 ? island : -1);
     }
 
     private static void placing(String why, RaftHold x, int fewest, int... places) {
@@ -513,6 +518,9 @@ public final class QuestionEdgesTest {
         Check.tray(zero, 0, 2 * 1);
         due("0 alone", zero.bearings(0, 0), 1);
         due("0 alone", zero.attempt(0, 0), 0);
+        RaftHold less = raft(ZERO + "holder bears 1 weight 0;floats:bears<6;");
+        Check.tray(less, 0, 1);
+        due("6 and 4 by the first, 5 and 5 by both, 0 among them", less.attempt(0, 0), 3);
         RaftHold nobody = raft("holder bears 0 weight 0;floats:all=0 or bears>3;");
         Check.tray(nobody, 0, 1);
         due("nobody floats by each: no better than one", nobody.attempt(0, 0), 1);

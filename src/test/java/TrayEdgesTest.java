@@ -21,6 +21,7 @@ public final class TrayEdgesTest {
         countsFrom0To10();
         countsOfTheFull();
         ofSeveralTheFirst();
+        fiveHundredAndTwelveCalls();
         Check.end();
     }
 
@@ -416,5 +417,23 @@ public final class TrayEdgesTest {
         due("when: people, none", x.when(2), -2);
         due("winning: what, none", x.winning(2), -2);
         due("island: what, none", x.island(2), -2);
+    }
+
+    /** An object answers up to its last call, whether it reads texts or does deeds all the while. */
+    private static void fiveHundredAndTwelveCalls() {
+        Check.promise(47, "the 512th call");
+        RaftHold deeds = new RaftHold();
+        for (int call = 1; call < 512; call++) {
+            due("storm", deeds.storm(call % 10), (call - 1) % 10);
+        }
+        due("the 512th", deeds.count(6), 1);
+        RaftHold texts = new RaftHold();
+        for (int call = 1; call < 511; call += 3) {
+            Check.feed(texts, "raft quota " + (1 + call % 99) + ";");
+            due("raft", texts.raft(20), 1);
+            due("quota", texts.count(1), 1 + call % 99);
+        }
+        due("the 511th", texts.storm(4), 0);
+        due("the 512th", texts.undo(1), 0);
     }
 }
