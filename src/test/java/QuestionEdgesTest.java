@@ -307,6 +307,8 @@ public final class QuestionEdgesTest {
             RaftHold x = likers("likes " + likes[i][0] + " " + likes[i][1] + " " + likes[i][2]);
             both("likes " + i, x.island(0), x.island(1), want[i], 0);
         }
+        RaftHold apart = likers("votes 9", "votes 0 likes 5 0 0");
+        both("what one without votes likes", apart.island(0), apart.island(1), -1, 0);
         due("what ahead of none", new RaftHold().island(2), -2);
         due("what ahead of none", new RaftHold().island(-1), -2);
     }

@@ -25,6 +25,7 @@ public final class TextEdgesTest {
         theLeastKind();
         sixDeep();
         depthEnds();
+        lawsBehindFaults();
         wordsOfLaws();
         kept();
         Check.end();
@@ -97,6 +98,10 @@ public final class TextEdgesTest {
         Check.due("ahead of its sign", read(RAFT, 12), -32);
         Check.due("in a word", read(RAFT, 3), -32);
         Check.due("nothing", read(RAFT, 0), -32);
+        RaftHold word = new RaftHold();
+        Check.feed(word, RAFT + "by");
+        Check.due("a word of which one letter is read", word.raft(14), -32);
+        Check.due("it stands where it begins", word.fault(1), 13);
         Check.due("a number is cut", read("raft quota 1234;", 13), -32);
     }
 
@@ -373,6 +378,22 @@ public final class TextEdgesTest {
         faulty(full + "(1)=1];", 4, full.length());
         faulty(full + "1=1*(1)];", 4, full.length() + 4);
         faulty(full + "1=1] and " + six + " and not " + six + ";", 4, full.length() + 9 + six.length() + 9 + 20);
+    }
+
+    /** A text that was refused in the middle of a law leaves nothing to the next one. */
+    private static void lawsBehindFaults() {
+        String[] broken = {"lets:[[[[[[1", "lets:((((((1", "lets:not not not not not not 1", "lets:1=2+3*", "lets:1=1 and not", "floats:[1=1 or 2"};
+        for (String law : broken) {
+            RaftHold x = new RaftHold();
+            Check.due("raft with " + law, Check.tell(x, RAFT + law), -32);
+            String six = RAFT + HOLDER + "lets:not not not not not not 1=1;floats:1=2;";
+            Check.due("a fine one behind " + law, Check.tell(x, six), 4);
+            Check.due("its law of weeks", x.lets(0), 1);
+            Check.due("its law of floating", x.floats(1), 0);
+            Check.due("raft with " + law, Check.tell(x, RAFT + law), -32);
+            Check.due("a law that isn't whole behind " + law, Check.tell(x, RAFT + "lets:1;"), -32);
+            Check.due("its place", x.fault(1), 19);
+        }
     }
 
     private static void wordsOfLaws() {
