@@ -2013,26 +2013,27 @@ public final class RaftHold {
             }
             raft = told;
             raft.placedQuarrels = TOO_MANY_QUARRELS;
-            put(0, 0, 0);
+            putFrom(this, 0, 0, 0);
             raft.isPlaced = true;
         }
 
         /** Only what is better is kept, so of like orders the first stays. */
-        private void put(int p, int taken, int quarrelling) {
+        private static void putFrom(Places own, int p, int taken, int quarrelling) {
+            Raft raft = own.raft;
             if (quarrelling >= raft.placedQuarrels) {
                 return;
             }
             if (p >= raft.people || p >= MOST_PEOPLE) {
                 raft.placedQuarrels = quarrelling;
-                System.arraycopy(tried, 0, raft.place, 0, MOST_PEOPLE);
+                System.arraycopy(own.tried, 0, raft.place, 0, MOST_PEOPLE);
                 return;
             }
-            int foes = placesOfFoes(p);
+            int foes = own.placesOfFoes(p);
             for (int place = 0; place < raft.people; place++) {
                 if ((taken >> place & 1) == 0) {
-                    tried[p] = place;
+                    own.tried[p] = place;
                     int more = Integer.bitCount(foes & raft.beside[place]);
-                    put(p + 1, taken | 1 << place, quarrelling + more);
+                    putFrom(own, p + 1, taken | 1 << place, quarrelling + more);
                 }
             }
         }

@@ -55,6 +55,35 @@ final class Texts {
         return s.length() <= 900 ? s.toString() : raft(most - 1);
     }
 
+    /** Six to eight people with ties drawn one by one, from few to all, a storm and mostly both laws. */
+    String crowd() {
+        int people = 6 + random.nextInt(3);
+        StringBuilder s = new StringBuilder("raft quota ").append(1 + random.nextInt(24)).append(";");
+        for (int p = 0; p < people; p++) {
+            s.append(holder());
+        }
+        ties(s, "by", people, random.nextInt(11));
+        ties(s, "quarrel", people, random.nextInt(11));
+        s.append("storm ").append(random.nextInt(10)).append(";");
+        if (random.nextInt(6) > 0) {
+            s.append("lets:").append(truth(3, true)).append(";");
+        }
+        if (random.nextInt(3) > 0) {
+            s.append("floats:").append(truth(3, false)).append(";");
+        }
+        return s.length() <= 900 ? s.toString() : crowd();
+    }
+
+    private void ties(StringBuilder s, String word, int people, int tenths) {
+        for (int p = 0; p < people; p++) {
+            for (int q = 0; q < p; q++) {
+                if (random.nextInt(10) < tenths) {
+                    s.append(word).append(' ').append(q).append(' ').append(p).append(';');
+                }
+            }
+        }
+    }
+
     private String pair(String word, int people) {
         int p = random.nextInt(people);
         int q = (p + 1 + random.nextInt(people - 1)) % people;
