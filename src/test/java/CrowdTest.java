@@ -1,6 +1,6 @@
 import java.util.Random;
 
-/** Crowded rafts, of six to eight people: every question at every argument answers as the model does. */
+/** Crowded rafts, of six to eight people: the questions, for all people and many drawn sets, answer as the model does. */
 public final class CrowdTest {
     private static final int SEEDS = 7919;
 
